@@ -170,11 +170,12 @@ public final class LayeredMulticast {
             return INVALID;
         }
         saved.copyFrom(state);
-        if (!tree.tryNextLevel(receiver)) {
+        int next = state.level[receiver] + 1;
+        if (next > state.wanted[receiver] || !tree.tryLevel(receiver, next)) {
             return NOT_FOUND;
         }
         history.keep(saved);
-        return state.level[receiver];
+        return next;
     }
 
     public boolean place(int node, int format) {
@@ -500,9 +501,11 @@ public final class LayeredMulticast {
     public int criticalLink() {
         int found = NOT_FOUND;
         int most = 0;
+        saved.copyFrom(state);
         for (int link = 0; link < setup.links; link++) {
             if (state.open[link]) {
-                int lost = loss(link);
+                int lost = tree.closeLink(link);
+                state.copyFrom(saved);
                 if (found == NOT_FOUND || lost > most) {
                     found = link;
                     most = lost;
@@ -928,11 +931,12 @@ public final class LayeredMulticast {
         }
 
         private boolean takeRate(int format, int layer) {
-            int layerRate = takeNumber(1, MAX_RATE);
-            if (layerRate == NONE) {
+            // a token that is no number has the value NONE
+            if (value < 1 || value > MAX_RATE) {
                 return false;
             }
-            draft.putRate(format, layer, layerRate);
+            draft.putRate(format, layer, value);
+            nextToken();
             return true;
         }
 
@@ -1265,6 +1269,8 @@ public final class LayeredMulticast {
         private final Setup setup;
         private final State state;
         private final Shape shape;
+        /** The cost of each link; UNREACHED if the path may not use it. */
+        private final int[] linkCost = new int[MAX_LINKS];
         /** The least cost from each node to the goal, over nodes outside the tree. */
         private final int[] costLeft = new int[MAX_NODES];
         final int[] path = new int[MAX_NODES];
@@ -1277,30 +1283,38 @@ public final class LayeredMulticast {
         }
 
         boolean findPath(int goal, int neededRate) {
-            length = 0;
+            weighLinks(neededRate);
             Arrays.fill(costLeft, UNREACHED);
             costLeft[goal] = 0;
             boolean changed = true;
             for (int i = 0; i < MAX_NODES && changed; i++) {
-                changed = spread(neededRate);
+                changed = spread();
             }
+            length = 0;
             int at = firstNode();
             for (int i = 0; i < MAX_NODES && at != NONE; i++) {
                 path[i] = at;
                 length = i + 1;
-                at = at == goal ? NONE : nextNode(at, neededRate);
+                at = at == goal ? NONE : nextNode(at);
             }
             return length > 0;
         }
 
-        private boolean spread(int neededRate) {
+        private void weighLinks(int neededRate) {
+            for (int link = 0; link < setup.links; link++) {
+                boolean usable = state.open[link] && state.capacity[link] >= neededRate;
+                linkCost[link] = usable ? setup.linkDelay[link] * DELAY_WEIGHT + 1 : UNREACHED;
+            }
+        }
+
+        private boolean spread() {
             boolean changed = false;
             for (int link = 0; link < setup.links; link++) {
-                if (isUsable(link, neededRate)) {
+                if (linkCost[link] < UNREACHED) {
                     int a = setup.linkStart[link];
                     int b = setup.linkEnd[link];
-                    changed |= shorten(a, b, costOf(link));
-                    changed |= shorten(b, a, costOf(link));
+                    changed |= shorten(a, b, linkCost[link]);
+                    changed |= shorten(b, a, linkCost[link]);
                 }
             }
             return changed;
@@ -1312,14 +1326,6 @@ public final class LayeredMulticast {
             }
             costLeft[from] = costLeft[to] + cost;
             return true;
-        }
-
-        private boolean isUsable(int link, int neededRate) {
-            return state.open[link] && state.capacity[link] >= neededRate;
-        }
-
-        private int costOf(int link) {
-            return setup.linkDelay[link] * DELAY_WEIGHT + 1;
         }
 
         private int firstNode() {
@@ -1338,11 +1344,11 @@ public final class LayeredMulticast {
         }
 
         /** The least node on a cheapest path onwards: so the whole path is lexicographically least. */
-        private int nextNode(int at, int neededRate) {
+        private int nextNode(int at) {
             for (int node = 0; node < setup.nodes; node++) {
                 int link = setup.linkAt[at * MAX_NODES + node];
-                if (link != NONE && !state.inTree[node] && isUsable(link, neededRate)
-                        && costLeft[node] + costOf(link) == costLeft[at]) {
+                if (link != NONE && !state.inTree[node]
+                        && costLeft[node] + linkCost[link] == costLeft[at]) {
                     return node;
                 }
             }
@@ -1387,12 +1393,7 @@ public final class LayeredMulticast {
             return 0;
         }
 
-        boolean tryNextLevel(int receiver) {
-            int level = state.level[receiver];
-            return level < state.wanted[receiver] && tryLevel(receiver, level + 1);
-        }
-
-        private boolean tryLevel(int receiver, int level) {
+        boolean tryLevel(int receiver, int level) {
             int node = state.node[receiver];
             int before = state.level[receiver];
             boolean grafted = !state.inTree[node];
@@ -1434,7 +1435,8 @@ public final class LayeredMulticast {
             for (int pass = 0; pass <= MAX_LEVEL_SUM; pass++) {
                 int before = raised;
                 for (int r = 0; r < state.receivers; r++) {
-                    if (!state.left[r] && tryNextLevel(r)) {
+                    int next = state.level[r] + 1;
+                    if (!state.left[r] && next <= state.wanted[r] && tryLevel(r, next)) {
                         raised++;
                     }
                 }
@@ -1470,7 +1472,10 @@ public final class LayeredMulticast {
             return before - state.levelSum();
         }
 
-        /** Removes what is below a link, and returns the receivers that had a level there. */
+        /**
+         * Takes the levels of the receivers below a link, and returns those that had one. Pruning
+         * then removes all nodes below the link, as nobody there has a level.
+         */
         private int cutAt(int link) {
             int top = lowerEnd(link);
             int nodes = top == NONE ? 0 : shape.subtree(top);
@@ -1479,11 +1484,6 @@ public final class LayeredMulticast {
                 if (state.level[r] > 0 && (nodes >> state.node[r] & 1) == 1) {
                     cut |= 1 << r;
                     state.level[r] = 0;
-                }
-            }
-            for (int node = 0; node < setup.nodes; node++) {
-                if ((nodes >> node & 1) == 1) {
-                    shape.detach(node);
                 }
             }
             return cut;

@@ -15,6 +15,8 @@ public final class RandomRunsTest {
     private LayeredMulticast real;
     private NaiveMulticast naive;
     private int made;
+    /** Wide links and strong processors, few of which are closed: large trees and many converters. */
+    private boolean rich;
 
     private RandomRunsTest(long seed) {
         random = new Random(seed);
@@ -64,6 +66,7 @@ public final class RandomRunsTest {
         real = new LayeredMulticast();
         naive = new NaiveMulticast();
         boolean large = upTo(12) == 0;
+        rich = upTo(2) == 0;
         int length = large ? 150 : MOST_CALLS;
         for (int i = 0; i < length && made < MOST_CALLS - 200; i++) {
             if (i == 3 || upTo(150) == 0) {
@@ -105,6 +108,8 @@ public final class RandomRunsTest {
         StringBuilder text = new StringBuilder(space() + "nodes" + space() + nodes + ";");
         int density = 1 + upTo(3);
         int widest = 4 + upTo(40);
+        int narrowest = rich ? 4 + upTo(10) : 0;
+        int strongest = rich ? 40 : 25;
         int slowest = 1 + upTo(4);
         int links = 0;
         for (int b = 1; b < nodes; b++) {
@@ -113,7 +118,7 @@ public final class RandomRunsTest {
                 if (wanted && links < 32 && text.length() < 1150) {
                     boolean turned = upTo(2) == 0;
                     text.append("link ").append(turned ? b : a).append(' ').append(turned ? a : b)
-                            .append("capacity").append(space()).append(upTo(widest)).append(" delay ")
+                            .append("capacity").append(space()).append(narrowest + upTo(widest)).append(" delay ")
                             .append(1 + upTo(slowest)).append(space()).append(';').append(space());
                     links++;
                 }
@@ -122,12 +127,12 @@ public final class RandomRunsTest {
         int layers = 1 + upTo(5);
         for (int v = 0; v < nodes && text.length() < 1250; v++) {
             if (upTo(3) > 0) {
-                text.append("cpu ").append(v).append(" 0").append(upTo(25)).append(space()).append(';');
+                text.append("cpu ").append(v).append(" 0").append(upTo(strongest)).append(space()).append(';');
             }
         }
         text.append("native");
         rates(text, layers);
-        int formats = upTo(4);
+        int formats = rich ? 1 + upTo(3) : upTo(4);
         for (int f = 0; f < formats; f++) {
             text.append(space()).append("format ").append(1 + upTo(4)).append(" rates");
             rates(text, layers);
@@ -169,7 +174,7 @@ public final class RandomRunsTest {
     // ---- calls
 
     private void randomCall() throws ReflectiveOperationException {
-        String[] common = {"addReceiver", "addReceiver", "place", "setOpen", "setCapacity", "improve", "undo"};
+        String[] common = {"addReceiver", "addReceiver", "place", "setOpen", "setCapacity", "improve", "undo", "remove", "rebuild"};
         String name = upTo(3) == 0 ? common[upTo(common.length)] : calls.get(upTo(calls.size())).getName();
         if (name.equals("load") || (name.equals("undo") && upTo(2) == 0)) {
             return;
@@ -223,6 +228,22 @@ public final class RandomRunsTest {
         return upTo(count);
     }
 
+    private int madeFormat(int formats) {
+        return upTo(8) == 0 ? below(formats) : 1 + upTo(formats - 1);
+    }
+
+    /** Mostly one that is there. */
+    private Object[] converter() {
+        for (int i = 0; i < 30; i++) {
+            int node = upTo(naive.nodes());
+            int format = madeFormat(naive.formats());
+            if (naive.isPlaced(node, format)) {
+                return new Object[] {node, format};
+            }
+        }
+        return new Object[] {below(naive.nodes()), madeFormat(naive.formats())};
+    }
+
     private Object[] arguments(String name) {
         int nodes = naive.nodes();
         int formats = naive.formats();
@@ -256,17 +277,19 @@ public final class RandomRunsTest {
                 return new Object[] {below(receivers)};
             case "setWanted":
                 return new Object[] {below(receivers), wanted};
-            case "place":
-            case "remove":
             case "demand":
             case "isPlaced":
             case "offer":
-            case "gain":
                 return new Object[] {below(nodes), below(formats)};
+            case "place":
+            case "gain":
+                return new Object[] {below(nodes), madeFormat(formats)};
+            case "remove":
+                return converter();
             case "setCapacity":
-                return new Object[] {below(links), upTo(20) == 0 ? 9999 + upTo(2) : upTo(40) - 1};
+                return new Object[] {below(links), upTo(20) == 0 ? 9999 + upTo(2) : upTo(40) - (rich ? 0 : 1)};
             case "setOpen":
-                return new Object[] {below(links), upTo(2) == 0};
+                return new Object[] {below(links), upTo(rich ? 4 : 2) > 0};
             case "pathNode":
                 return new Object[] {below(receivers), below(6)};
             case "shared":
@@ -282,7 +305,7 @@ public final class RandomRunsTest {
             case "graftNode":
                 return new Object[] {below(nodes), below(formats), wanted, below(4)};
             case "bestPlace":
-                return new Object[] {below(formats)};
+                return new Object[] {madeFormat(formats)};
             case "reportByte":
                 return new Object[] {below(naive.reportLength() + 1)};
             default:
