@@ -194,6 +194,10 @@ public final class OperationsTest {
                 "setOpen 5 false = 2", "levels = 3103", "isInTree 3 = false", "isInTree 5 = false",
                 "setOpen 5 true = 0", "levels = 3103", "improve = 2", "levels = 3123", "setOpen 0 false = 9", "levels = 0000",
                 "report = ", "undo = 9", "levels = 3123", "isOpen 0 = true");
+        // a link outside the tree takes nothing, and nobody joins anew
+        Script.run(CHECKS, "promise 21", Networks.RING,
+                "addReceiver 0 0 1 = 0", "addReceiver 4 0 1 = 1", "setWanted 0 3 = 1", "setWanted 1 3 = 1", "setOpen 3 false = 0", "levels = 11",
+                "setOpen 5 false = 0", "levels = 11", "parent 4 = 2", "setOpen 4 false = 1", "levels = 10", "undo = 6", "levels = 11");
         // only those that had a level come back, in ascending order, and the rest is pruned
         Script.run(CHECKS, "promise 21", "nodes 4;link 0 1 capacity 9 delay 1;link 1 2 capacity 9 delay 1;link 2 3 capacity 0 delay 1;"
                         + "link 0 3 capacity 2 delay 9;native 1 1;",
