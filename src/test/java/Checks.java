@@ -28,6 +28,10 @@ final class Checks {
         }
     }
 
+    int asked() {
+        return asked;
+    }
+
     void end() {
         System.out.println(name + ": " + asked + " checks, " + wrong + " wrong");
         if (asked == 0 || wrong != 0) {

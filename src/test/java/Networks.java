@@ -35,4 +35,26 @@ final class Networks {
             + "link 1 3 capacity 9 delay 2;"
             + "link 0 3 capacity 1 delay 4;"
             + "native 1 1;";
+
+    /** Sixteen nodes in a row, which all links of the greatest capacity and delay connect. */
+    static String row(String behind) {
+        StringBuilder text = new StringBuilder("nodes 16;");
+        for (int node = 1; node < 16; node++) {
+            text.append("link ").append(node - 1).append(' ').append(node).append(" capacity 9999 delay 99;");
+        }
+        return text + behind;
+    }
+
+    /** Sixteen nodes and so many links: 0 - 1, 0 - 2 and so on to 2 - 5, the 32nd; each has its number as its capacity. */
+    static String links(int count) {
+        StringBuilder text = new StringBuilder("nodes 16;");
+        int links = 0;
+        for (int a = 0; a < 16; a++) {
+            for (int b = a + 1; b < 16 && links < count; b++) {
+                text.append("link ").append(a).append(' ').append(b).append(" capacity ").append(links).append(" delay 1;");
+                links++;
+            }
+        }
+        return text.toString();
+    }
 }
